@@ -263,6 +263,23 @@ public final class PromisesTest {
     due("setting 6 changes", x.setting(6), 0);
     due("affixes change", formatted(x, -3, 0), "-3");
     due("value stays too", x.value(), -15L);
+    applyInARow();
+  }
+
+  private static void applyInARow() {
+    PatternedDecimals x = with("%#,00.0%;(%0)");
+    String[] patterns = {"0", "#.#", "a0b", "0;x0y", "0", "00E0", "#"};
+    String[] negative = {"-3", "-3", "-a3b", "x3y", "-3", "-30E-1", "-3"};
+    for (int k = 0; k < patterns.length; k++) {
+      retype(x, patterns[k]);
+      due("apply of " + patterns[k] + " in a row", x.apply(), NONE);
+      due("setting 3 in a row", x.setting(3), 0);
+      due("setting 5 in a row", x.setting(5), 1);
+      due("setting 6 in a row", x.setting(6), k == 3 ? 1 : 0);
+      due("format by " + patterns[k] + " in a row", formatted(x, -3, 0), negative[k]);
+      due("print of " + patterns[k] + " in a row", x.print() > 0, true);
+      due("first character printed in a row", x.out(0), (int) patterns[k].charAt(0));
+    }
   }
 
   private static void applyLongTexts() {
@@ -514,6 +531,12 @@ public final class PromisesTest {
     prints("0;'-'0.00", "0");
     prints("a0b;-a000b", "a0b");
     prints("a0b;-a0", "a0b;-a#");
+    prints("abc0;-abc0", "abc0");
+    prints("abc0;-acc0", "abc0;-acc#");
+    prints("abc0;-ab0", "abc0;-ab#");
+    prints("0abc;-0abc", "0abc");
+    prints("0abc;-0acc", "0abc;-#acc");
+    prints("0abc;-0abcd", "0abc;-#abcd");
     prints("a0b;a0b", "a0b;a#b");
     prints("a0;--a0", "a0;--a#");
     prints("a0;-0", "a0;-#");
