@@ -1,12 +1,5 @@
 /** One group of checks for each promise of the document: ordinary inputs, edges, wrong inputs. */
-public final class PromisesTest {
-  private static final int NONE = PatternedDecimals.NONE;
-  private static final int BAD = PatternedDecimals.BAD;
-  private static final int INEXACT = PatternedDecimals.INEXACT;
-
-  private static int wrong = 0;
-  private static int checks = 0;
-
+public final class PromisesTest extends Checks {
   public static void main(String[] args) {
     constants();
     newObject();
@@ -33,61 +26,7 @@ public final class PromisesTest {
     parseExponents();
     parseLimits();
     valueAndScale();
-    System.out.println(checks + " checks, " + wrong + " wrong");
-    if (wrong != 0) {
-      System.exit(1);
-    }
-  }
-
-  private static void due(String what, Object got, Object want) {
-    checks++;
-    if (!want.equals(got)) {
-      wrong++;
-      System.out.println(what + " answered " + got + ", due is " + want);
-    }
-  }
-
-  private static void retype(PatternedDecimals x, String s) {
-    x.wipe();
-    for (int k = 0; k < s.length(); k++) {
-      due("type of " + s + " at " + k, x.type(s.charAt(k)), true);
-    }
-  }
-
-  private static PatternedDecimals with(String pattern) {
-    PatternedDecimals x = new PatternedDecimals();
-    retype(x, pattern);
-    due("apply of " + pattern, x.apply(), NONE);
-    return x;
-  }
-
-  private static String outOf(PatternedDecimals x) {
-    StringBuilder b = new StringBuilder();
-    for (int k = 0; k < 200 && x.out(k) != NONE; k++) {
-      b.append((char) x.out(k));
-    }
-    return b.toString();
-  }
-
-  private static String many(char c, int times) {
-    return String.valueOf(c).repeat(times);
-  }
-
-  private static String formatted(PatternedDecimals x, long u, int s) {
-    int answer = x.format(u, s);
-    String got = outOf(x);
-    due("format(" + u + ", " + s + ") to " + got, answer, got.length());
-    return got;
-  }
-
-  private static void formats(String pattern, int mode, long u, int s, String want) {
-    PatternedDecimals x = with(pattern);
-    due("mode " + mode, x.mode(mode), true);
-    due(pattern + " mode " + mode + " of " + u + " / 10^" + s, formatted(x, u, s), want);
-  }
-
-  private static void formats(String pattern, long u, int s, String want) {
-    formats(pattern, 6, u, s, want);
+    finish();
   }
 
   private static void constants() {
@@ -153,13 +92,6 @@ public final class PromisesTest {
     due("wipe leaves the pattern", x.setting(1), 1);
     due("wipe leaves the fields", x.field(1, false), 2);
     due("apply of an empty text", x.apply(), 0);
-  }
-
-  private static void fault(String text, int want) {
-    PatternedDecimals x = new PatternedDecimals();
-    retype(x, text);
-    due("apply of <" + text + ">", x.apply(), want);
-    due("setting after apply of <" + text + ">", x.setting(0) == NONE, want != NONE);
   }
 
   private static void applyPatterns() {
@@ -321,17 +253,6 @@ public final class PromisesTest {
     due("mode stays with another pattern", formatted(x, 111, 2), "1.2");
   }
 
-  private static void settings(String pattern, int... want) {
-    PatternedDecimals x = with(pattern);
-    for (int k = 0; k <= 6; k++) {
-      due("setting " + k + " of " + pattern, x.setting(k), want[k]);
-    }
-    due("setting -1", x.setting(-1), NONE);
-    due("setting 7", x.setting(7), NONE);
-    due("setting least", x.setting(Integer.MIN_VALUE), NONE);
-    due("setting most", x.setting(Integer.MAX_VALUE), NONE);
-  }
-
   private static void setting() {
     settings("#", 0, 0, 0, 0, 0, 1, 0);
     settings("0", 1, 0, 0, 0, 0, 1, 0);
@@ -486,19 +407,6 @@ public final class PromisesTest {
     formats("0E0%", 1, 0, "1E2%");
   }
 
-  private static void prints(String pattern, String want) {
-    PatternedDecimals x = with(pattern);
-    int answer = x.print();
-    due("print of " + pattern, outOf(x), want);
-    due("print length of " + pattern, answer, want.length());
-    due("print leaves TEXT", x.length(), pattern.length());
-    due("no field after print", x.field(0, false), NONE);
-    x.copy();
-    due("apply of what was printed, " + want, x.apply(), NONE);
-    x.print();
-    due("print of what was printed", outOf(x), want);
-  }
-
   private static void print() {
     prints("0", "0");
     prints("####", "#");
@@ -566,18 +474,6 @@ public final class PromisesTest {
     due("out 3 after a longer one", x.out(3), NONE);
   }
 
-  private static void fields(String pattern, long u, int s, int... want) {
-    PatternedDecimals x = with(pattern);
-    String got = formatted(x, u, s);
-    for (int k = 0; k < 6; k++) {
-      due("field " + k / 2 + " of " + got, x.field(k / 2, k % 2 == 1), want[k]);
-    }
-    due("field -1", x.field(-1, true), NONE);
-    due("field 3", x.field(3, false), NONE);
-    due("field least", x.field(Integer.MIN_VALUE, true), NONE);
-    due("field most", x.field(Integer.MAX_VALUE, true), NONE);
-  }
-
   private static void field() {
     fields("0", 12, 0, 0, 2, 2, 2, 2, 2);
     fields("ab0.0cd", -15, 1, 3, 4, 5, 6, 6, 6);
@@ -628,29 +524,6 @@ public final class PromisesTest {
       due("type up to the end", x.type('z'), true);
     }
     due("type beyond the end", x.type('z'), false);
-  }
-
-  private static void reads(String pattern, String text, long value, int scale) {
-    PatternedDecimals x = with(pattern);
-    retype(x, text);
-    due("parse of " + text + " by " + pattern, x.parse(), true);
-    due("value of " + text + " by " + pattern, x.value(), value);
-    due("scale of " + text + " by " + pattern, x.scale(), scale);
-    due("parse leaves TEXT", x.length(), text.length());
-  }
-
-  private static void refuses(String pattern, String text) {
-    PatternedDecimals x = with(pattern);
-    due("format", x.format(-7, 1) > 0, true);
-    x.copy();
-    boolean first = x.parse();
-    long value = x.value();
-    int scale = x.scale();
-    retype(x, text);
-    due("parse of " + text + " by " + pattern + " after " + first, x.parse(), false);
-    due("value after refusing " + text, x.value(), value);
-    due("scale after refusing " + text, x.scale(), scale);
-    due("length after refusing " + text, x.length(), text.length());
   }
 
   private static void parseBodies() {
