@@ -363,6 +363,9 @@ public final class ReadingBoundariesTest extends Checks {
     reads("0;10", "1" + many('0', 15) + "2", 10000000000000002L, 0);
     reads("a0;'a1'0", "a" + MOST, MOST, 0);
     refuses("a0;'a1'0", "a1" + many('0', 20) + "7");
+    reads("0;0b", MOST + "b", -MOST, 0);
+    reads("0;0b", MOST + "00b", -MOST, -2);
+    reads("0;10b", "100" + MOST + "b", -MOST, 0);
   }
 
   private static void longestTexts() {
@@ -387,11 +390,11 @@ public final class ReadingBoundariesTest extends Checks {
     due("scale", x.scale(), 102);
     retype(x, "0;a0");
     due("apply", x.apply(), NONE);
-    String[] texts = {"100", "5", "a700", "0", "3.50", "a0.020", "9"};
-    long[] values = {1, 5, -7, 0, 35, -2, 9};
-    int[] scales = {-2, 0, -2, 0, 1, 2, 0};
+    String[] texts = {"100", "5", "a700", "" + MOST, "0", "3.50", "a0.020", "9"};
+    long[] values = {1, 5, -7, MOST, 0, 35, -2, 9};
+    int[] scales = {-2, 0, -2, 0, 0, 1, 2, 0};
     for (int k = 0; k < texts.length; k++) {
-      retype(x, "-1.50E7");
+      retype(x, "-1.500E7");
       due("refused parse before " + texts[k], x.parse(), false);
       retype(x, texts[k]);
       due("parse of " + texts[k], x.parse(), true);
